@@ -1117,10 +1117,12 @@ public final class CrewPairings {
             total[flights] = NONE;
             choice[flights] = 0;
             int least = flights & -flights;
-            // subsets come downwards: of like ones the last, which is the least, stays
-            for (int set = flights; set > 0; set = (set - 1) & flights) {
-                int rest = total[flights & ~set];
-                if ((set & least) == 0 || cost[set] == NONE || rest == NONE) {
+            int others = flights & ~least;
+            // sets come downwards: of like ones the last, which is the least, stays
+            for (int more = others; more >= 0; more = more == 0 ? NONE : (more - 1) & others) {
+                int set = least | more;
+                int rest = total[others & ~more];
+                if (cost[set] == NONE || rest == NONE) {
                     continue;
                 }
                 int asked = cost[set] + rest;
@@ -1242,6 +1244,9 @@ public final class CrewPairings {
         }
 
         private boolean standSomewhere(int f, int g) {
+            if (network.how[f * FLIGHTS + g] == 0) {
+                return false;
+            }
             for (int set = 1; set <= plan.allFlights(); set++) {
                 if (open[set] && network.isRightBehind(set, f, g)) {
                     return true;
@@ -1826,7 +1831,9 @@ public final class CrewPairings {
         void become(int sheet, int sort, int size) {
             sorts[sheet] = sort;
             sizes[sheet] = size;
-            Arrays.fill(items, sheet * LONGEST, (sheet + 1) * LONGEST, 0L);
+            for (int i = 0; i < LONGEST; i++) {
+                items[sheet * LONGEST + i] = 0;
+            }
         }
 
         long read(int sheet, int i) {
