@@ -157,6 +157,12 @@ public final class PromisesTest {
         due(4, "slack 1 below 3", x.of(1, 6), 4);
         x.fee(4, 1);
         due(4, "slack 1 not below 1", x.of(1, 6), 0);
+        x.fly(1, 0, 85, 99);
+        x.shift(0, 103, 110);
+        due(4, "flight 0 follows, too", x.of(6, 6) + 10 * x.of(6, 4), 10);
+        x.fee(4, 2);
+        due(4, "flight 0 is tight, too", x.of(6, 6), 1);
+        x.drop();
         due(4, "flight", x.of(6, 0), BAD);
         due(4, "flight below", x.of(-1, 0), BAD);
         due(4, "what", x.of(0, 7), BAD);
@@ -650,13 +656,17 @@ public final class PromisesTest {
         String[] texts = {"", " ", "x", "fly", "fly 0 1 2", "fly 0 1 2 ", "fly 0 1 2 3 4", "base 1;", "base 1; ",
             ";base 1", "base 1;;base 1", "base 1000", "base 1 base", "base 1 1000", "base;", "base 1,2", "BASE 1",
             "bas 1", "basee 1", "base -1", "base 1\t", "1 base", "fly 0 1 2 base", "base 1 ; fee 1", "mustnot 1 2",
-            "must 1 2 not 1 2", "base 1;x", "base 1;fee 1 2000;y", "base 0001"};
-        int[] places = {0, 1, 0, 3, 9, 10, 12, 7, 8, 0, 7, 5, 7, 7, 4, 6, 0, 0, 0, 5, 6, 0, 10, 14, 0, 9, 7, 13, 5};
+            "must 1 2 not 1 2", "base 1;x", "base 1;fee 1 2000;y", "base 0001",
+            "basez 1", "base", "base 1 123", "base 1;fee 1 2 3"};
+        int[] places = {0, 1, 0, 3, 9, 10, 12, 7, 8, 0, 7, 5, 7, 7, 4, 6, 0, 0, 0, 5, 6, 0, 10, 14, 0, 9, 7, 13, 5, 0, 4, 7, 15};
         CrewPairings x = new CrewPairings();
         for (int i = 0; i < texts.length; i++) {
             due(30, "'" + texts[i] + "'", text(x, texts[i]), -100 - places[i]);
             due(30, "the tape is empty", x.count(2), 0);
         }
+        due(30, "what stood there before is gone", text(x, "base 12"), 1);
+        due(30, "what stood there before is gone", text(x, "base 1"), 1);
+        due(30, "what stood there before is gone", x.count(5), 1);
         due(30, "by a fault nothing is done", text(x, "base 9;base"), -111);
         due(30, "by a fault nothing is done", x.count(5), 1);
     }
@@ -687,12 +697,12 @@ public final class PromisesTest {
         due(31, "not all", x.tells(1, 2), NONE);
         row(x, 1, 0, 1, 2, 4, 8, 16, 32, 32);
         due(31, "seven", x.tells(1, 0), 6);
+        due(31, "what", x.tells(1, 3), BAD);
+        due(31, "what below", x.tells(1, -1), BAD);
         x.sheet(1, 0, 8);
         due(31, "more than seven", x.tells(1, 0), BAD);
         due(31, "missing", x.tells(2, 0), MISSING);
         due(31, "sheet", x.tells(4, 0), BAD);
-        due(31, "what", x.tells(1, 3), BAD);
-        due(31, "what below", x.tells(1, -1), BAD);
         x.sheet(0, 1, 5);
         due(32, "film", x.film(0), 3);
         due(32, "sets", x.item(0, 1), 12);
@@ -773,6 +783,45 @@ public final class PromisesTest {
         }
     }
 
+    /** Two flights of which the second has just been shifted out of reach, or back into it. */
+    private static CrewPairings shifted(boolean reach) {
+        CrewPairings x = two();
+        row(x, 0, 0, 0, 0);
+        row(x, 1, 0, 3);
+        if (reach) x.shift(1, 12, 22);
+        x.tree(0);
+        x.price(0, 0);
+        x.shift(1, reach ? 14 : 12, 22);
+        return x;
+    }
+
+    private static void afterChange() {
+        for (int i = 0; i < 2; i++) {
+            boolean reach = i == 1;
+            due(4, "after a change", shifted(reach).of(0, 4), reach ? 2 : 0);
+            due(12, "after a change", shifted(reach).follows(0, 1), i);
+            due(13, "after a change", shifted(reach).pairing(3, 0), reach ? 37 : NONE);
+            due(14, "after a change", shifted(reach).pairings(-1), i);
+            due(15, "after a change", shifted(reach).had(3, 0), reach ? 37 : NONE);
+            due(16, "after a change", shifted(reach).best(0), reach ? 37 : NONE);
+            due(17, "after a change", shifted(reach).bestOf(0, 0), reach ? 3 : NONE);
+            due(18, "after a change", shifted(reach).bound(0), reach ? 37 : NO);
+            due(19, "after a change", shifted(reach).price(0, 0), reach ? 37 : NO);
+            due(20, "after a change", shifted(reach).branch(0, 1, 1, 0), reach ? 37 : NO);
+            due(21, "after a change", shifted(reach).tree(1), 1 - i);
+            due(22, "after a change", shifted(reach).proves(0, 1, 1), 0);
+            due(23, "after a change", shifted(reach).labels(0, 0), 1 + i);
+            due(24, "after a change", shifted(reach).way(0), reach ? 37 : NO);
+            due(25, "after a change", shifted(reach).late(0, 9, 1), reach ? 17 : STATE);
+            due(26, "after a change", shifted(reach).worst(9), reach ? 0 : STATE);
+            due(27, "after a change", shifted(reach).drawn(1, 1), reach ? 0 : STATE);
+            due(28, "after a change", shifted(reach).chance(1, 1, 1, 1, 0), reach ? 1 : STATE);
+            due(31, "after a change", shifted(reach).tells(1, 1), reach ? 37 : NONE);
+            due(32, "after a change", shifted(reach).film(2), reach ? 1 : NONE);
+            due(36, "after a change", shifted(reach).count(3), i);
+        }
+    }
+
     private static void sheetsOfHost() {
         CrewPairings x = new CrewPairings();
         due(37, "longs", x.sheet(0, 0, 40), 1);
@@ -797,7 +846,9 @@ public final class PromisesTest {
         due(37, "all 0", x.item(0, 2), 0);
         due(38, "lowest 32 bits", x.put(0, 2, 0x1_8000_0000L), 1);
         due(39, "an int", x.item(0, 2), LOW);
+        x.put(0, 0, 7);
         due(37, "anew", x.sheet(0, 1, 40), 1);
+        due(37, "all 0", x.item(0, 0), 0);
         due(37, "all 0", x.item(0, 2), 0);
         due(37, "all 0", x.item(0, 39), 0);
         due(37, "missing, n doesn't matter", x.sheet(0, -1, -77), 1);
@@ -858,6 +909,7 @@ public final class PromisesTest {
         loads();
         images();
         counts();
+        afterChange();
         sheetsOfHost();
         copies();
         System.out.println(asked + " answers asked, " + wrong + " not as due");
