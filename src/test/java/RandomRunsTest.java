@@ -13,23 +13,6 @@ public final class RandomRunsTest {
         "proves", "labels", "way", "late", "worst", "drawn", "chance", "feed", "text", "tells", "film", "load",
         "image", "back", "count", "sheet", "put", "item", "copy"};
 
-    /** Found by a search: their bounds are no whole numbers. */
-    private static final String[] FRACTIONS = {
-        "base 7;kind 1 3 7;kind 2 2 0;kind 3 3 6;fly 0 1 55 56;fly 2 0 93 95;fly 2 0 35 37;fly 2 1 34 36;"
-            + "fly 0 1 62 67;fly 1 2 75 77;fly 1 2 85 87",
-        "base 15;kind 0 2 9;kind 2 5 6;kind 3 4 6;fly 0 1 17 20;fly 1 0 29 31;fly 0 1 7 10;fly 1 0 6 7;"
-            + "fly 1 0 8 13;fly 0 1 27 28;fly 0 1 1 3",
-        "base 3;kind 0 4 7;kind 1 2 8;fly 0 1 4 6;fly 1 0 9 12;fly 1 0 22 23;fly 0 1 17 20;fly 0 1 10 11;"
-            + "fly 0 1 17 19;fly 1 0 10 14",
-        "base 3;kind 0 4 8;kind 1 4 2;fly 1 0 5 8;fly 1 0 32 37;fly 0 1 43 44;fly 0 1 30 31;fly 1 0 6 8;"
-            + "fly 0 1 54 56;fly 1 0 32 37",
-        "base 11;kind 0 4 7;kind 1 2 4;fly 1 0 26 31;fly 0 1 33 35;fly 0 1 30 32;fly 0 1 16 17;"
-            + "fly 1 0 67 69;fly 1 0 26 28;fly 1 0 46 50",
-        "base 7;kind 0 4 2;kind 1 4 4;fly 0 1 27 31;fly 0 1 39 40;fly 0 1 52 54;fly 1 0 10 11;"
-            + "fly 1 0 43 44;fly 1 0 32 34;fly 1 0 38 42",
-        "base 6;kind 0 5 4;kind 1 1 4;kind 2 2 3;fly 2 0 17 21;fly 2 1 96 99;fly 2 0 25 30;fly 1 2 1 2;"
-            + "fly 2 1 62 66;fly 0 2 48 50;fly 0 2 60 62"};
-
     private final Random random;
     private final CrewPairings x = new CrewPairings();
     private final Reference y = new Reference();
@@ -90,11 +73,11 @@ public final class RandomRunsTest {
     }
 
     private int flight() {
-        return draw(0, Math.max(0, x.count(0) - 1));
+        return draw(0, Math.max(0, y.count(0) - 1));
     }
 
     private int set() {
-        return draw(1, Math.max(1, (1 << Math.max(0, x.count(0))) - 1));
+        return draw(1, Math.max(1, (1 << Math.max(0, y.count(0))) - 1));
     }
 
     /** Flights that hang together, so that there are pairings and often a cover. */
@@ -136,8 +119,8 @@ public final class RandomRunsTest {
         }
     }
 
-    private void weaveFractions() {
-        for (String clause : FRACTIONS[random.nextInt(FRACTIONS.length)].split(";")) {
+    private void weaveFound() {
+        for (String clause : Plans.FOUND[random.nextInt(Plans.FOUND.length)].split(";")) {
             String[] words = clause.split(" ");
             call(words[0], Arrays.stream(words).skip(1).mapToLong(Long::parseLong).toArray());
         }
@@ -154,7 +137,7 @@ public final class RandomRunsTest {
 
     private void tellPrices() {
         int sheet = random.nextInt(4);
-        fill(sheet, Math.max(0, x.count(0)), random.nextBoolean() ? 0 : -20, 60);
+        fill(sheet, Math.max(0, y.count(0)), random.nextBoolean() ? 0 : -20, 60);
         for (int what = 0; what < 2; what++) {
             call("labels", sheet, what);
             call("proves", sheet, 1 + random.nextInt(5), what);
@@ -165,7 +148,7 @@ public final class RandomRunsTest {
     /** The prices of the bound, told in n-ths: they prove it. */
     private void tellBound() {
         int sheet = random.nextInt(4);
-        int size = x.count(0);
+        int size = y.count(0);
         long all = 1;
         for (int f = 0; f < size; f++) {
             long below = call("price", f, 1);
@@ -187,7 +170,7 @@ public final class RandomRunsTest {
             call("film", sheet);
             if (random.nextBoolean()) call("put", sheet, draw(0, 3), set());
         } else {
-            fill(sheet, random.nextInt(8), 0, Math.max(1, (1 << x.count(0)) - 1));
+            fill(sheet, random.nextInt(8), 0, Math.max(1, (1 << y.count(0)) - 1));
         }
         for (int what = 0; what < 3; what++) {
             call("tells", sheet, what);
@@ -281,7 +264,7 @@ public final class RandomRunsTest {
         for (int part = 0; part < 2; part++) {
             call("bound", part);
             call("tree", part);
-            for (int f = 0; f < x.count(0); f++) {
+            for (int f = 0; f < y.count(0); f++) {
                 call("price", f, part);
                 call("bestOf", f, part);
             }
@@ -293,13 +276,13 @@ public final class RandomRunsTest {
 
     private boolean run() {
         switch (random.nextInt(5)) {
-            case 0 -> weaveFractions();
+            case 0 -> weaveFound();
             case 1, 2 -> weaveFan();
             default -> weave();
         }
         if (random.nextInt(3) == 0) call("fee", 3, random.nextInt(6));
         ask();
-        for (int i = 0; i < CALLS && log.size() < 500 && !wrong; i++) {
+        for (int i = 0; i < CALLS && log.size() < 460 && !wrong; i++) {
             one();
         }
         if (!wrong && log.size() < 450) ask();
